@@ -27,6 +27,7 @@ public final class Crosshatch {
     private final Fillings all = new Fillings(now, slots, rest);
     private final Search hunt = new Search(now, slots, rest);
     private final Hints clues = new Hints(slots, rest, all);
+    private final Solver solver = new Solver(now, slots, rest, all);
     private final Paper paper = new Paper();
     private final Grid kept = new Grid();
     private final Slots keptSlots = new Slots();
@@ -36,7 +37,6 @@ public final class Crosshatch {
     private final int[] row = new int[SLOTS];
     private final int[] rowAhead = new int[SLOTS];
     private final StringBuilder pen = new StringBuilder();
-    private boolean isKept;
     private int knocks;
     private int walkTo = NONE;
     private int walkAt = NONE;
@@ -54,7 +54,8 @@ public final class Crosshatch {
         remember();
         now.grid.clear(wide, high);
         now.checked = 0;
-        return redrawn(now.grid.cells());
+        redraw();
+        return now.grid.cells();
     }
 
     public int block(int cell, boolean is) throws IndexOutOfBoundsException {
@@ -65,7 +66,7 @@ public final class Crosshatch {
         if (is) {
             put(grid.told, cell, NONE);
         }
-        redrawn(NONE);
+        redraw();
         return slots.count;
     }
 
@@ -81,7 +82,7 @@ public final class Crosshatch {
         } else {
             grid.rightBars = set(grid.rightBars, cell, is);
         }
-        redrawn(NONE);
+        redraw();
         return slots.count;
     }
 
@@ -131,7 +132,7 @@ public final class Crosshatch {
         remember();
         Grid grid = now.grid;
         grid.blockSet = set(set(grid.blockSet, cell, true), grid.partner(cell), true);
-        redrawn(NONE);
+        redraw();
         return cell;
     }
 
@@ -239,16 +240,9 @@ public final class Crosshatch {
     }
 
     public int step() {
-        int kind = stepKind();
-        int cell = stepCell(kind);
-        int letter = stepLetter(kind, cell);
-        if (kind == 0) {
-            remember();
-            renew();
-        } else {
-            tell(cell, letter);
-        }
-        return kind;
+        solver.plan();
+        tell(solver.cell, solver.letter);
+        return solver.kind;
     }
 
     // ---- papers, walks, steps back
@@ -276,14 +270,13 @@ public final class Crosshatch {
         remember();
         paper.onto(now.grid);
         now.checked = 0;
-        redrawn(NONE);
+        redraw();
         return slots.count;
     }
 
     public int keep() {
         kept.become(now.grid);
         keptSlots.find(kept);
-        isKept = true;
         return kept.cells();
     }
 
@@ -341,7 +334,7 @@ public final class Crosshatch {
             case 6: return Integer.bitCount(rest.laidSet);
             case 7: return now.least;
             case 8: return slots.numbers;
-            case 9: return grid.parts();
+            case 9: return slots.parts();
             case 10: return faults(grid, slots);
             default: throw new IllegalArgumentException("what is 0 to 10");
         }
@@ -427,7 +420,7 @@ public final class Crosshatch {
             case 4: return paper.fault(now.alphabet);
             case 5: return past.count;
             case 6: return knocks;
-            case 7: return one(isKept);
+            case 7: return one(isKept());
             case 8: return walkAt;
             default: throw new IllegalArgumentException("what is 0 to 8");
         }
@@ -495,7 +488,9 @@ public final class Crosshatch {
 
     public int filling(int k, int slot) throws IndexOutOfBoundsException, IllegalArgumentException {
         needSlot(slot);
-        if (isFillingOpen(k)) {
+        int many = all.many();
+        needFilling(k, many);
+        if (many == OPEN) {
             return OPEN;
         }
         all.unfold(k, row);
@@ -514,11 +509,15 @@ public final class Crosshatch {
     }
 
     public int hints(int k) throws IllegalArgumentException {
-        return isFillingOpen(k) ? OPEN : clues.of(k);
+        int many = all.many();
+        needFilling(k, many);
+        return many == OPEN ? OPEN : clues.of(k);
     }
 
     public int unfair(int k, boolean isWords) throws IllegalArgumentException {
-        if (isFillingOpen(k)) {
+        int many = all.many();
+        needFilling(k, many);
+        if (many == OPEN) {
             return OPEN;
         }
         all.unfold(k, row);
@@ -529,12 +528,8 @@ public final class Crosshatch {
         if (what < 0 || what > 2) {
             throw new IllegalArgumentException("what is 0 to 2");
         }
-        int kind = stepKind();
-        if (what == 0) {
-            return kind;
-        }
-        int cell = stepCell(kind);
-        return what == 1 ? cell : stepLetter(kind, cell);
+        solver.plan();
+        return what == 0 ? solver.kind : what == 1 ? solver.cell : solver.letter;
     }
 
     // ---- clues, squares, rings, grids
@@ -593,7 +588,7 @@ public final class Crosshatch {
         if (what < 0 || what > 2) {
             throw new IllegalArgumentException("what is 0 to 2");
         }
-        if (!isKept) {
+        if (!isKept()) {
             return NONE;
         }
         if (what == 0) {
@@ -790,12 +785,10 @@ public final class Crosshatch {
         return true;
     }
 
-    private boolean isFillingOpen(int k) {
-        int many = all.many();
+    private static void needFilling(int k, int many) {
         if (k < 0 || many != OPEN && k >= many) {
             throw new IllegalArgumentException("there is no such filling");
         }
-        return many == OPEN;
     }
 
     // ---- changes
@@ -817,12 +810,12 @@ public final class Crosshatch {
         hunt.isKnown = false;
     }
 
-    private int redrawn(int answer) {
+    private void redraw() {
         fill(now.laid, NONE);
         renew();
-        return answer;
     }
 
+    // Without a cell it is a change all the same, by which nothing is other.
     private void tell(int cell, int letter) {
         remember();
         put(now.grid.told, cell, letter);
@@ -832,7 +825,7 @@ public final class Crosshatch {
     // ---- grids made sound
 
     private int faults(Grid grid, Slots of) {
-        int faults = grid.parts() >= 2 ? 1 : 0;
+        int faults = of.parts() >= 2 ? 1 : 0;
         if (of.isAnyShorter(now.least)) {
             faults |= 2;
         }
@@ -891,6 +884,10 @@ public final class Crosshatch {
         return unlike;
     }
 
+    private boolean isKept() {
+        return keptSlots.cellCount > 0;
+    }
+
     private boolean isLikeKept() {
         Grid grid = now.grid;
         return grid.wide == kept.wide && grid.high == kept.high && unlikeCells() == 0
@@ -915,34 +912,6 @@ public final class Crosshatch {
             if (partner != NONE && partner != slot && at(now.laid, slot) == NONE && at(now.laid, partner) == NONE
                     && rest.isFitting(slot, word) && rest.isFitting(partner, other)) {
                 return slot;
-            }
-        }
-        return NONE;
-    }
-
-    private int stepKind() {
-        if (rest.sureCell() != NONE) {
-            return 1;
-        }
-        return forcedCell() != NONE ? 2 : 0;
-    }
-
-    private int stepCell(int kind) {
-        return kind == 1 ? rest.sureCell() : kind == 2 ? forcedCell() : NONE;
-    }
-
-    private int stepLetter(int kind, int cell) {
-        return kind == 1 ? rest.sureLetter(cell) : kind == 2 ? at(all.forced, cell) : NONE;
-    }
-
-    private int forcedCell() {
-        if (all.many() == OPEN) {
-            return NONE;
-        }
-        int cells = now.grid.cells();
-        for (int cell = 0; cell < cells; cell++) {
-            if (at(rest.there, cell) == NONE && at(all.forced, cell) != NONE) {
-                return cell;
             }
         }
         return NONE;
@@ -1155,7 +1124,7 @@ public final class Crosshatch {
     // A letter is forced just if all fillings have it.
     private boolean areSureLettersForced() {
         for (int cell = 0; cell < CELLS; cell++) {
-            int sure = rest.sureLetter(cell);
+            int sure = solver.sureLetter(cell);
             if (sure != NONE && sure != at(all.forced, cell)) {
                 return false;
             }
@@ -1260,91 +1229,75 @@ public final class Crosshatch {
             }
             return true;
         }
-
-        int parts() {
-            int cells = cells();
-            int seen = 0;
-            int parts = 0;
-            for (int cell = 0; cell < cells; cell++) {
-                if (isWhite(cell) && !has(seen, cell)) {
-                    parts++;
-                    seen |= reach(cell);
-                }
-            }
-            return parts;
-        }
-
-        private int reach(int from) {
-            int reached = set(0, from, true);
-            int before = 0;
-            for (int round = 0; round < CELLS && reached != before; round++) {
-                before = reached;
-                reached = wider(reached);
-            }
-            return reached;
-        }
-
-        private int wider(int reached) {
-            int cells = cells();
-            for (int cell = 0; cell < cells; cell++) {
-                if (joinsRight(cell) && (has(reached, cell) || has(reached, cell + 1))) {
-                    reached = set(set(reached, cell, true), cell + 1, true);
-                }
-                if (joinsBelow(cell) && (has(reached, cell) || has(reached, cell + wide))) {
-                    reached = set(set(reached, cell, true), cell + wide, true);
-                }
-            }
-            return reached;
-        }
     }
 
-    /** The slots of a grid, their numbers and where they cross. */
+    /** What hangs together in a grid: its parts, its slots, their numbers and where they cross. */
     private static final class Slots {
         private int count;
         private int numbers;
         private int cellCount;
+        private int wide;
+        private int whites;
+        // Sets of the cells that hang together with the one to their right, or below them.
+        private int rightJoins;
+        private int lowJoins;
         private final int[] first = new int[SLOTS];
         private final int[] stride = new int[SLOTS];
         private final int[] lengths = new int[SLOTS];
         private final int[] across = new int[CELLS];
         private final int[] down = new int[CELLS];
         private final int[] number = new int[CELLS];
+        // Of each place of each slot its cell, the slot that crosses there, and the place of that one.
+        private final int[] cells = new int[SLOTS * LONGEST];
         private final int[] crossed = new int[SLOTS * LONGEST];
         private final int[] crossedPlace = new int[SLOTS * LONGEST];
 
         void find(Grid grid) {
+            join(grid);
             count = 0;
             numbers = 0;
-            cellCount = grid.cells();
             fill(across, NONE);
             fill(down, NONE);
             fill(number, 0);
+            fill(cells, NONE);
             for (int cell = 0; cell < cellCount; cell++) {
-                boolean isAcross = grid.joinsRight(cell) && !grid.joinsRight(cell - 1);
-                boolean isDown = grid.joinsBelow(cell) && !grid.joinsBelow(cell - grid.wide);
+                boolean isAcross = has(rightJoins, cell) && !has(rightJoins, cell - 1);
+                boolean isDown = has(lowJoins, cell) && !has(lowJoins, cell - wide);
                 if (isAcross || isDown) {
                     numbers++;
                     put(number, cell, numbers);
                 }
                 if (isAcross) {
-                    add(grid, cell, 1);
+                    add(cell, 1, rightJoins, across);
                 }
                 if (isDown) {
-                    add(grid, cell, grid.wide);
+                    add(cell, wide, lowJoins, down);
                 }
             }
             findCrossings();
         }
 
-        private void add(Grid grid, int from, int by) {
-            int[] owner = by > 1 ? down : across;
+        private void join(Grid grid) {
+            cellCount = grid.cells();
+            wide = grid.wide;
+            whites = 0;
+            rightJoins = 0;
+            lowJoins = 0;
+            for (int cell = 0; cell < cellCount; cell++) {
+                whites = set(whites, cell, grid.isWhite(cell));
+                rightJoins = set(rightJoins, cell, grid.joinsRight(cell));
+                lowJoins = set(lowJoins, cell, grid.joinsBelow(cell));
+            }
+        }
+
+        private void add(int from, int by, int joins, int[] owner) {
             int cell = from;
-            int length = 1;
-            put(owner, cell, count);
-            while (length < LONGEST && (by > 1 ? grid.joinsBelow(cell) : grid.joinsRight(cell))) {
-                cell += by;
-                length++;
+            int length = 0;
+            for (boolean isOn = true; isOn && length < LONGEST; cell += by) {
                 put(owner, cell, count);
+                put(cells, count * LONGEST + length, cell);
+                length++;
+                isOn = has(joins, cell);
             }
             put(first, count, from);
             put(stride, count, by);
@@ -1363,6 +1316,27 @@ public final class Crosshatch {
             }
         }
 
+        int parts() {
+            int seen = 0;
+            int parts = 0;
+            for (int cell = 0; cell < cellCount; cell++) {
+                if (has(whites, cell) && !has(seen, cell)) {
+                    parts++;
+                    seen |= reach(cell);
+                }
+            }
+            return parts;
+        }
+
+        private int reach(int cell) {
+            int reached = set(0, cell, true);
+            for (int round = 0; round < CELLS; round++) {
+                reached |= (reached & rightJoins) << 1 | reached >> 1 & rightJoins
+                        | (reached & lowJoins) << wide | reached >> wide & lowJoins;
+            }
+            return reached;
+        }
+
         private int placeOf(int cell, int slot) {
             int by = at(stride, slot);
             return slot == NONE || by < 1 ? NONE : (cell - at(first, slot)) / by;
@@ -1377,7 +1351,7 @@ public final class Crosshatch {
         }
 
         int cell(int slot, int place) {
-            return place < length(slot) ? at(first, slot) + place * at(stride, slot) : NONE;
+            return at(cells, slot * LONGEST + place);
         }
 
         int cross(int slot, int place) {
@@ -1419,9 +1393,9 @@ public final class Crosshatch {
             return longest;
         }
 
-        boolean areInTwo(int cells) {
+        boolean areInTwo(int checked) {
             for (int cell = 0; cell < cellCount; cell++) {
-                if (has(cells, cell) && (at(across, cell) == NONE || at(down, cell) == NONE)) {
+                if (has(checked, cell) && (at(across, cell) == NONE || at(down, cell) == NONE)) {
                     return false;
                 }
             }
@@ -1526,8 +1500,8 @@ public final class Crosshatch {
         }
 
         int having(int place, int letter) {
-            int k = place * LETTERS + letter;
-            return place >= 0 && letter >= 0 && letter < LETTERS && k < byLetter.length ? byLetter[k] : 0;
+            boolean is = place >= 0 && place < LONGEST && letter >= 0 && letter < LETTERS;
+            return is ? byLetter[place * LETTERS + letter] : 0;
         }
 
         int matching(int[] letters) {
@@ -1855,34 +1829,6 @@ public final class Crosshatch {
         private int laidLetterOf(int slot, int cell) {
             return slot == NONE ? NONE : now.words.letterAt(at(now.laid, slot), slots.placeOf(cell, slot));
         }
-
-        int sureCell() {
-            for (int cell = 0; cell < CELLS; cell++) {
-                if (sureLetter(cell) != NONE) {
-                    return cell;
-                }
-            }
-            return NONE;
-        }
-
-        int sureLetter(int cell) {
-            if (at(there, cell) != NONE) {
-                return NONE;
-            }
-            int across = onlyLetter(at(slots.across, cell), cell);
-            return across != NONE ? across : onlyLetter(at(slots.down, cell), cell);
-        }
-
-        private int onlyLetter(int slot, int cell) {
-            int left = slot == NONE ? 0 : at(leaves, slot);
-            int place = slots.placeOf(cell, slot);
-            for (int letter = 0; left != 0 && letter < LETTERS; letter++) {
-                if ((left & ~now.words.having(place, letter)) == 0) {
-                    return letter;
-                }
-            }
-            return NONE;
-        }
     }
 
     /** All fillings, looked for slot by slot; each is held by the last one of its tries. */
@@ -2092,6 +2038,75 @@ public final class Crosshatch {
         }
     }
 
+    /** The next step of a solver, and why it can be made. */
+    private static final class Solver {
+        private final State now;
+        private final Slots slots;
+        private final Rest rest;
+        private final Fillings all;
+        private int kind;
+        private int cell;
+        private int letter;
+
+        Solver(State state, Slots ofState, Rest ofSlots, Fillings fillings) {
+            now = state;
+            slots = ofState;
+            rest = ofSlots;
+            all = fillings;
+        }
+
+        void plan() {
+            kind = 1;
+            cell = sureCell();
+            letter = sureLetter(cell);
+            if (cell == NONE) {
+                kind = 2;
+                cell = all.many() == OPEN ? NONE : forcedCell();
+                letter = at(all.forced, cell);
+            }
+            if (cell == NONE) {
+                kind = 0;
+            }
+        }
+
+        private int forcedCell() {
+            for (int c = 0; c < CELLS; c++) {
+                if (at(rest.there, c) == NONE && at(all.forced, c) != NONE) {
+                    return c;
+                }
+            }
+            return NONE;
+        }
+
+        private int sureCell() {
+            for (int c = 0; c < CELLS; c++) {
+                if (sureLetter(c) != NONE) {
+                    return c;
+                }
+            }
+            return NONE;
+        }
+
+        int sureLetter(int c) {
+            if (at(rest.there, c) != NONE) {
+                return NONE;
+            }
+            int across = onlyLetter(at(slots.across, c), c);
+            return across != NONE ? across : onlyLetter(at(slots.down, c), c);
+        }
+
+        private int onlyLetter(int slot, int c) {
+            int left = slot == NONE ? 0 : at(rest.leaves, slot);
+            int place = slots.placeOf(c, slot);
+            for (int k = 0; left != 0 && k < LETTERS; k++) {
+                if ((left & ~now.words.having(place, k)) == 0) {
+                    return k;
+                }
+            }
+            return NONE;
+        }
+    }
+
     /** The fewest letters that tell one filling from all others. */
     private static final class Hints {
         private final Slots slots;
@@ -2149,12 +2164,22 @@ public final class Crosshatch {
             return alike;
         }
 
+        // Ends with the first other filling that is alike, for most sets tell too little.
+        private boolean tell(int cells) {
+            for (int k = 0; k < count && k < unlike.length; k++) {
+                if ((unlike[k] & cells) == 0) {
+                    return false;
+                }
+            }
+            return true;
+        }
+
         // The subsets of open come by rising numbers, so the first one of a size is the smallest.
         private int smallest(int open) {
             int best = open;
             int cells = 0;
             for (int k = 0; k < 1 << Integer.bitCount(open); k++) {
-                if (Integer.bitCount(cells) < Integer.bitCount(best) && alike(cells) == 0) {
+                if (Integer.bitCount(cells) < Integer.bitCount(best) && tell(cells)) {
                     best = cells;
                 }
                 cells = cells - open & open;
