@@ -143,6 +143,8 @@ public final class PaperTest {
     }
 
     private static void promise23() {
+        Crosshatch fresh = new Crosshatch();
+        Due.fails("23: no walk at first", fresh, STATE, fresh::next);
         Crosshatch x = two();
         Due.fails("23: no walk", x, STATE, x::next);
         x.walk(0);
