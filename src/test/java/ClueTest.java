@@ -198,7 +198,8 @@ public final class ClueTest {
         d = d * 31 + v;
     }
 
-    private static long digest(Crosshatch x) {
+    /** The checksum once more, by what the other calls tell. */
+    static long digest(Crosshatch x) {
         d = 6705;
         for (int what = 0; what <= 10; what++) {
             mix(x.ofGrid(what));

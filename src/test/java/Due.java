@@ -1,3 +1,7 @@
+import java.util.function.Consumer;
+import java.util.function.Function;
+import java.util.function.Supplier;
+
 /** What the tests of promises share: they tell each answer that is not the one that is due. */
 final class Due {
     private static int wrong;
@@ -38,6 +42,56 @@ final class Due {
             seen.append(' ').append(on.text(w));
         }
         return seen.toString();
+    }
+
+    /**
+     * Seen, and all that only later calls tell: where a walk goes, each of the changes that can be undone, the paper,
+     * the knocks. The object is used up by that.
+     */
+    static String whole(Crosshatch on) {
+        StringBuilder whole = new StringBuilder(seen(on));
+        for (int slot = 0; slot < on.ofGrid(4); slot++) {
+            whole.append(' ').append(on.clue(slot));
+        }
+        whole.append(" walk");
+        try {
+            for (int next = 0; next != -1;) {
+                next = on.next();
+                whole.append(' ').append(next);
+            }
+        } catch (IllegalStateException over) {
+            whole.append(" over");
+        }
+        try {
+            for (int steps = 0; steps < 10; steps++) {
+                whole.append(" undo ").append(on.undo()).append(' ').append(seen(on));
+            }
+        } catch (IllegalStateException first) {
+            whole.append(" first");
+        }
+        whole.append(" read ").append(on.read()).append(' ').append(seen(on));
+        return whole.append(" knock ").append(on.knock()).toString();
+    }
+
+    /** The call has to throw just that, and all is as if it had not been made. */
+    static void refused(String call, Supplier<Crosshatch> made, Class<? extends RuntimeException> want,
+            Consumer<Crosshatch> asked) {
+        Crosshatch on = made.get();
+        Object got = "nothing";
+        try {
+            asked.accept(on);
+        } catch (RuntimeException thrown) {
+            got = thrown.getClass();
+        }
+        is(call + " throws", got, want);
+        is(call + " changes", whole(on), whole(made.get()));
+    }
+
+    /** The call has to answer just that, and all is as if it had not been made. */
+    static void idle(String call, Supplier<Crosshatch> made, Object want, Function<Crosshatch, Object> asked) {
+        Crosshatch on = made.get();
+        is(call, asked.apply(on), want);
+        is(call + " changes", whole(on), whole(made.get()));
     }
 
     static int word(Crosshatch on, String text, int worth) {
