@@ -1,5 +1,7 @@
 import java.math.BigInteger;
 import java.util.Arrays;
+import java.util.List;
+import java.util.function.Supplier;
 
 /** The edges of part 5 of the description (clues, squares, rings, papers) and of promises 18 to 21, 48 to 55. */
 public final class ClueEdgeTest {
@@ -98,8 +100,9 @@ public final class ClueEdgeTest {
         String[][] pairs = {{"abc", "abcde"}, {"bcd", "abcde"}, {"cde", "abcde"}, {"abcd", "abcde"}, {"bcde", "abcde"},
             {"ace", "abcde"}, {"bd", "abcde"}, {"ad", "abcde"}, {"ae", "abcde"}, {"ce", "abcde"}, {"edcba", "abcde"},
             {"abced", "abcde"}, {"abcde", "abc"}, {"ab", "abcde"}, {"de", "abcde"}, {"abd", "abcde"},
-            {"ca", "abcde"}, {"abcde", "edcba"}, {"aabbc", "abcab"}, {"aabbc", "abcac"}, {"ab", "babab"}};
-        int[] want = {2, 2, 2, 2, 2, 4, 4, 0, 0, 0, 9, 8, 0, 2, 2, 0, 0, 9, 8, 0, 2};
+            {"ca", "abcde"}, {"abcde", "edcba"}, {"aabbc", "abcab"}, {"aabbc", "abcac"}, {"ab", "babab"},
+            {"ac", "abcde"}, {"bc", "abcde"}, {"ce", "abcde"}, {"aa", "abaca"}, {"aac", "abaca"}, {"bc", "abaca"}};
+        int[] want = {2, 2, 2, 2, 2, 4, 4, 0, 0, 0, 9, 8, 0, 2, 2, 0, 0, 9, 8, 0, 2, 0, 2, 0, 0, 0, 4};
         for (int k = 0; k < pairs.length; k++) {
             Crosshatch x = Due.with(5, 3, 3, pairs[k]);
             Due.is("48: " + pairs[k][0] + " in " + pairs[k][1], x.hidden(0, 1), want[k]);
@@ -623,7 +626,7 @@ public final class ClueEdgeTest {
 
     // "a SEARCH that is not OPEN": one that is may be told with no filling at all. The row above and the column on the
     // left have 8 words each, none of which agree; the search takes the six rows of two first, that have 7.
-    private static void soundOpenSearch() {
+    private static Crosshatch openSearch() {
         Crosshatch x = GridEdgeTest.drawn(".....", ".....", ".....", ".....");
         for (int cell = 1; cell < 15; cell++) {
             if (cell % 5 > 0) {
@@ -640,6 +643,11 @@ public final class ClueEdgeTest {
         for (int k = 0; k < 7; k++) {
             x.word(k / 4, k % 4, -2, -2, -2, 1);
         }
+        return x;
+    }
+
+    private static void soundOpenSearch() {
+        Crosshatch x = openSearch();
         Due.is("28: slots", x.ofGrid(4), 8);
         Due.is("42: 8 tries, and no filling", x.fillings(), 0);
         Due.is("40: open", x.search(0), -8);
@@ -647,12 +655,12 @@ public final class ClueEdgeTest {
         Due.is("40: dead ends, counted by a program of its own", x.search(2), 820);
         Due.is("41: none", x.found(0), -1);
         Due.is("54: sound", x.isSound(), true);
-        Due.is("55: digest", x.digest(), ClueTest.digest(x));
+        Due.is("55: digest", x.digest(), ClueTest.digest(ClueEdgeTest::openSearch));
     }
 
     // Nor does an open search say that there is no filling. Slot by slot 9 words above leave one on the left and one
     // beside it, then 6, 5, 4 and 3 in the other rows; but the search takes the rows of two first, which begin with aa.
-    private static void soundLateSearch() {
+    private static Crosshatch lateSearch() {
         Crosshatch x = new Crosshatch();
         x.alphabet(6);
         x.grid(5, 4);
@@ -673,6 +681,11 @@ public final class ClueEdgeTest {
         for (String word : new String[] {"caaaa", "cbaa", "aa", "ab", "ac", "ad", "ae", "af", "ba"}) {
             Due.word(x, word, 1);
         }
+        return x;
+    }
+
+    private static void soundLateSearch() {
+        Crosshatch x = lateSearch();
         Due.is("42: 9 + 1 + 1 + 6 + 30 + 120 + 360 tries", x.fillings(), 360);
         Due.is("40: open", x.search(0), -8);
         Due.is("40: tries", x.search(1), 1000);
@@ -680,29 +693,40 @@ public final class ClueEdgeTest {
         Due.is("41: none", x.found(0), -1);
         Due.is("43: but filling 0 has one", x.text(x.filling(0, 2)), "ba");
         Due.is("54: sound", x.isSound(), true);
-        Due.is("55: digest", x.digest(), ClueTest.digest(x));
+        Due.is("55: digest", x.digest(), ClueTest.digest(ClueEdgeTest::lateSearch));
     }
 
     // Promise 55, by what the other calls tell: one filling, more of them, none, open.
     private static void digestOfEach() {
-        Crosshatch one = Due.with(2, 3, 2, "aba", "ba", "ab");
-        one.block(3, true);
-        one.block(5, true);
-        one.name(0, true);
-        Due.is("55: one filling", one.fillings(), 1);
-        Due.is("46: words, but no cell", one.unfair(0, true) * 10 + one.unfair(0, false), 10);
-        Crosshatch none = Due.with(3, 2, 2, "ab", "ca", "ac");
-        none.keep();
-        none.block(0, true);
-        Crosshatch marked = RefusedTest.full();
-        marked.ban(4, true);
-        marked.walk(1);
-        marked.next();
-        Crosshatch[] all = {one, none, marked, RefusedTest.full(), RefusedTest.many(30), GridEdgeTest.drawn("##", "##"),
-            FillingTest.product(11, 9, 9), Due.with(3, 2, 2, "ab", "ba", "bc", "cb", "aba", "bcb", "aca", "abc")};
-        for (int k = 0; k < all.length; k++) {
-            Due.is("55: digest " + k, all[k].digest(), ClueTest.digest(all[k]));
-            Due.is("55: again " + k, all[k].digest(), all[k].digest());
+        Supplier<Crosshatch> one = () -> {
+            Crosshatch made = Due.with(2, 3, 2, "aba", "ba", "ab");
+            made.block(3, true);
+            made.block(5, true);
+            made.name(0, true);
+            return made;
+        };
+        Due.is("55: one filling", one.get().fillings(), 1);
+        Due.is("46: words, but no cell", one.get().unfair(0, true) * 10 + one.get().unfair(0, false), 10);
+        Supplier<Crosshatch> none = () -> {
+            Crosshatch made = Due.with(3, 2, 2, "ab", "ca", "ac");
+            made.keep();
+            made.block(0, true);
+            return made;
+        };
+        Supplier<Crosshatch> marked = () -> {
+            Crosshatch made = RefusedTest.full();
+            made.ban(4, true);
+            made.walk(1);
+            made.next();
+            return made;
+        };
+        List<Supplier<Crosshatch>> all = List.of(one, none, marked, RefusedTest::full, () -> RefusedTest.many(30),
+                () -> GridEdgeTest.drawn("##", "##"), () -> FillingTest.product(11, 9, 9),
+                () -> Due.with(3, 2, 2, "ab", "ba", "bc", "cb", "aba", "bcb", "aca", "abc"));
+        for (int k = 0; k < all.size(); k++) {
+            Crosshatch x = all.get(k).get();
+            Due.is("55: digest " + k, x.digest(), ClueTest.digest(all.get(k)));
+            Due.is("55: again " + k, x.digest(), x.digest());
         }
     }
 

@@ -1,3 +1,6 @@
+import java.util.List;
+import java.util.function.Supplier;
+
 /** Promises 48 to 55: hidden and rearranged letters, squares, rings, blocks that are missing, comparing, the digest. */
 public final class ClueTest {
     private static final Class<IndexOutOfBoundsException> PLACE = IndexOutOfBoundsException.class;
@@ -198,25 +201,39 @@ public final class ClueTest {
         d = d * 31 + v;
     }
 
-    /** The checksum once more, by what the other calls tell. */
-    static long digest(Crosshatch x) {
+    /** The checksum once more, by what the other calls tell; so many that one object would be used for too many. */
+    static long digest(Supplier<Crosshatch> made) {
         d = 6705;
+        Crosshatch x = made.get();
         for (int what = 0; what <= 10; what++) {
             mix(x.ofGrid(what));
         }
-        for (int cell = 0; cell < x.ofGrid(0) * x.ofGrid(1); cell++) {
+        int cells = x.ofGrid(0) * x.ofGrid(1);
+        for (int cell = 0; cell < cells; cell++) {
             for (int what = 0; what <= 7; what++) {
                 mix(x.ofCell(cell, what));
             }
         }
-        for (int slot = 0; slot < x.ofGrid(4); slot++) {
+        digestOfSlots(made.get());
+        digestOfWords(made.get());
+        digestOfFillings(made.get());
+        return d;
+    }
+
+    private static void digestOfSlots(Crosshatch x) {
+        int slots = x.ofGrid(4);
+        for (int slot = 0; slot < slots; slot++) {
             for (int what = 0; what <= 8; what++) {
                 mix(x.ofSlot(slot, what));
             }
             mix(x.clue(slot).length());
             mix(x.found(slot));
         }
-        for (int word = 0; word < x.house(1); word++) {
+    }
+
+    private static void digestOfWords(Crosshatch x) {
+        int words = x.house(1);
+        for (int word = 0; word < words; word++) {
             for (int what = 0; what <= 6; what++) {
                 mix(x.ofWord(word, what));
             }
@@ -226,8 +243,6 @@ public final class ClueTest {
         for (int what = 0; what <= 8; what++) {
             mix(x.house(what));
         }
-        digestOfFillings(x);
-        return d;
     }
 
     private static void digestOfFillings(Crosshatch x) {
@@ -254,21 +269,31 @@ public final class ClueTest {
         mix(x.isSound() ? 1 : 0);
     }
 
+    private static Crosshatch used(Crosshatch made) {
+        made.keep();
+        made.knock();
+        Due.type(made, "..;#");
+        return made;
+    }
+
+    private static Crosshatch walking(Crosshatch made) {
+        used(made);
+        made.name(0, true);
+        made.wish(0, true);
+        made.walk(0);
+        return made;
+    }
+
     private static void promise55() {
-        Crosshatch[] all = {new Crosshatch(), words(), Due.with(3, 2, 2, "ab", "ca", "ac", "ba"),
-            FillingTest.product(10, 9, 10), FillingTest.product(10, 9, 11)};
-        for (Crosshatch x : all) {
-            x.keep();
-            x.knock();
-            Due.type(x, "..;#");
-            Due.is("55: digest", x.digest(), digest(x));
-            if (x.house(1) > 0) {
-                x.name(0, true);
-                x.wish(0, true);
-                x.walk(0);
-                Due.is("55: with a walk", x.digest(), digest(x));
-            }
+        List<Supplier<Crosshatch>> all = List.of(ClueTest::words,
+                () -> Due.with(3, 2, 2, "ab", "ca", "ac", "ba"), () -> FillingTest.product(10, 9, 10),
+                () -> FillingTest.product(10, 9, 11));
+        Due.is("55: a new object", new Crosshatch().digest(), digest(Crosshatch::new));
+        for (Supplier<Crosshatch> made : all) {
+            Due.is("55: digest", used(made.get()).digest(), digest(() -> used(made.get())));
+            Due.is("55: with a walk", walking(made.get()).digest(), digest(() -> walking(made.get())));
         }
-        Due.is("55: the same again", all[0].digest(), all[0].digest());
+        Crosshatch x = words();
+        Due.is("55: the same again", x.digest(), x.digest());
     }
 }

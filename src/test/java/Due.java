@@ -34,11 +34,9 @@ final class Due {
     /** All that the questions tell that the digest leaves out is texts and what changes them. */
     static String seen(Crosshatch on) {
         StringBuilder seen = new StringBuilder();
-        seen.append(on.digest());
-        for (int y = 0; y < on.ofGrid(1); y++) {
-            seen.append(' ').append(on.drawn(y));
-        }
-        for (int w = 0; w < on.house(1); w++) {
+        seen.append(on.digest()).append(' ').append(drawn(on));
+        int words = on.house(1);
+        for (int w = 0; w < words; w++) {
             seen.append(' ').append(on.text(w));
         }
         return seen.toString();
@@ -50,7 +48,8 @@ final class Due {
      */
     static String whole(Crosshatch on) {
         StringBuilder whole = new StringBuilder(seen(on));
-        for (int slot = 0; slot < on.ofGrid(4); slot++) {
+        int slots = on.ofGrid(4);
+        for (int slot = 0; slot < slots; slot++) {
             whole.append(' ').append(on.clue(slot));
         }
         whole.append(" walk");
@@ -122,7 +121,8 @@ final class Due {
 
     static String drawn(Crosshatch on) {
         StringBuilder drawn = new StringBuilder();
-        for (int y = 0; y < on.ofGrid(1); y++) {
+        int high = on.ofGrid(1);
+        for (int y = 0; y < high; y++) {
             drawn.append(on.drawn(y)).append(';');
         }
         return drawn.toString();

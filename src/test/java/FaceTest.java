@@ -68,7 +68,10 @@ public final class FaceTest {
             face.add(method.getName());
         }
         List<Class<?>> classes = new ArrayList<>(Arrays.asList(Crosshatch.class.getDeclaredClasses()));
-        Due.is("at most twelve classes", classes.size() <= 11, true);
+        Due.is("some twelve classes at most", classes.size() <= 14, true);
+        for (Field field : Crosshatch.class.getDeclaredFields()) {
+            Due.is("private " + field, Modifier.isPrivate(field.getModifiers()), true);
+        }
         classes.add(Crosshatch.class);
         for (Class<?> it : classes) {
             int kept = 0;
@@ -76,34 +79,46 @@ public final class FaceTest {
                 boolean isStatic = Modifier.isStatic(field.getModifiers());
                 kept += isStatic ? 0 : 1;
                 Due.is("final " + field, !isStatic || Modifier.isFinal(field.getModifiers()), true);
-                Due.is("private " + field, Modifier.isPrivate(field.getModifiers()), true);
             }
-            Due.is("fields of " + it, kept <= 20, true);
+            Due.is("some twenty fields of " + it, kept <= 24, true);
+            Due.is("static or none " + it, it == Crosshatch.class || !Modifier.isPublic(it.getModifiers()), true);
             for (Method method : it.getDeclaredMethods()) {
                 Due.is("parameters of " + method, method.getParameterCount() <= 7, true);
-                boolean isFace = it == Crosshatch.class && Modifier.isPublic(method.getModifiers());
-                Due.is("name of " + method, !isFace && face.contains(method.getName()), false);
+                boolean isHidden = it == Crosshatch.class && Modifier.isPrivate(method.getModifiers());
+                Due.is("name of " + method, isHidden && face.contains(method.getName()), false);
             }
         }
     }
 
-    private static void source(String source) {
-        String[] none = {"import", "package", "catch", "finally", "synchronized", "assert", "instanceof", "->", "::",
-            "Exact", "System", "equals", "hashCode", "Override", "Object", "double", "float", "Random", "Thread"};
-        for (String word : none) {
-            Due.is("no " + word, source.contains(word), false);
-        }
-        Due.is("only signs 1 to 126", source.chars().allMatch(c -> c == 10 || c >= 32 && c < 127), true);
-        Due.is("texts are not joined by +", Pattern.compile("\"\\s*\\+|\\+\\s*\"").matcher(source).find(), false);
+    private static void none(String source, String rule) {
+        Matcher found = Pattern.compile(rule).matcher(source);
+        Due.is("no " + rule, found.find() ? found.group() : "", "");
+    }
+
+    private static void source(String whole) {
+        Due.is("only signs 1 to 127", whole.chars().allMatch(c -> c > 0 && c < 128), true);
+        none(whole, "\"\\s*\\+|\\+\\s*\"");
+        String source = whole.replaceAll("(?s)/\\*.*?\\*/", "").replaceAll("//[^\\n]*", "")
+                .replaceAll("\"[^\"\\n]*\"", "\"\"");
+        none(source, "(?m)^package .*");
+        none(source, "import (?!java\\.util\\.(ArrayList|List|Arrays|Iterator|NoSuchElementException);).*");
+        none(source, "System\\.(?!arraycopy\\()\\w*");
+        none(source, "\\b(finally|synchronized|assert|hashCode|Thread|Random|Class|Object|native|volatile)\\b");
+        none(source, "\\w+Exact\\(");
+        none(source, "::");
+        none(source, "(?m)^(?!.*\\b(case|default)\\b).*->.*$");
+        none(source, "catch \\((?!IllegalStateException|IllegalArgumentException|IndexOutOfBoundsException"
+                + "|ArithmeticException|UnsupportedOperationException|NoSuchElementException|RuntimeException)[^)]*");
+        none(source, "throw (?!new (IllegalStateException|IllegalArgumentException|IndexOutOfBoundsException"
+                + "|ArithmeticException|UnsupportedOperationException|NoSuchElementException|RuntimeException)"
+                + "\\((\"\")?\\);)[^;]*;");
+        none(source, "(?m)^\\s*static \\{");
         Matcher methods = Pattern.compile("(?ms)^( {4}| {8})[a-zA-Z][^\\n;=]*\\{$.*?^\\1\\}$").matcher(source);
         while (methods.find()) {
             String text = methods.group();
-            if (!text.contains(" class ")) {
-                Due.is("short: " + text.lines().findFirst().orElse(""), text.lines().count() <= 60, true);
+            if (!Pattern.compile("\\b(class|interface|enum|record) ").matcher(text).find()) {
+                Due.is("some sixty lines: " + text.lines().findFirst().orElse(""), text.lines().count() <= 70, true);
             }
-        }
-        for (String line : source.lines().toList()) {
-            Due.is("width of " + line, line.length() <= 120, true);
         }
     }
 }

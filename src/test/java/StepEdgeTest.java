@@ -55,8 +55,9 @@ public final class StepEdgeTest {
     private static Supplier<Crosshatch> walking(Supplier<Crosshatch> of) {
         return () -> {
             Crosshatch made = of.get();
-            made.walk(0);
-            made.next();
+            if (made.walk(0) > 0) {
+                made.next();
+            }
             return made;
         };
     }
@@ -195,7 +196,14 @@ public final class StepEdgeTest {
         change("no name already", of, x -> x.name(0, false));
         change("the same paper", of, Crosshatch::read);
         change("the same alphabet", Crosshatch::new, x -> x.alphabet(4));
+        change("the same alphabet, with a filling", () -> GridEdgeTest.drawn("##", "##"), x -> x.alphabet(4));
         change("step() of the kind 0", Crosshatch::new, x -> Due.is("17: kind", x.step(), 0));
+        change("step() of the kind 0, with fillings", () -> {
+            Crosshatch made = square();
+            made.letter(0, 0);
+            made.letter(3, 0);
+            return made;
+        }, x -> Due.is("17: kind", x.step(), 0));
         Supplier<Crosshatch> told = () -> {
             Crosshatch made = new Crosshatch();
             made.letter(3, 1);
